@@ -168,9 +168,7 @@ public final class MachineTwins {
         boolean found = false;
         for (int a = 0; a < STATES; a++) {
             for (int b = a + 1; b < STATES; b++) {
-                if (apart[pair(a, b)] == 0 && someInputStarts(a, b, length)) {
-                    apart[pair(a, b)] = length;
-                    apart[pair(b, a)] = length;
+                if (apart[pair(a, b)] == 0 && markPair(a, b, length)) {
                     found = true;
                 }
             }
@@ -178,12 +176,19 @@ public final class MachineTwins {
         return found;
     }
 
-    private boolean someInputStarts(int a, int b, int length) {
-        int input = firstInput(a, b, length);
-        return starts(a, b, input, length);
+    private boolean markPair(int a, int b, int length) {
+        boolean told = false;
+        for (int input = 0; input < INPUTS && !told; input++) {
+            told = starts(a, b, input, length);
+        }
+        if (told) {
+            apart[pair(a, b)] = length;
+            apart[pair(b, a)] = length;
+        }
+        return told;
     }
 
-    // Answers the last input untested: where a word of this length exists, one input must start it.
+    // The last input goes untested: the two are this far apart, so one of the inputs must do.
     private int firstInput(int a, int b, int length) {
         int input = 0;
         while (input < INPUTS - 1 && !starts(a, b, input, length)) {
